@@ -942,17 +942,14 @@ public final class QuoteGrid {
         int reasonAt(int firstModule) {
             Quote moved = plan.quotes[quote];
             moved.moveTo(firstModule);
-            int reason;
             if (moved.column + moved.width > COLUMNS || moved.row + moved.height > ROWS) {
-                reason = OUTSIDE;
-            } else if (isTooNearToAnother(moved)) {
-                reason = TOO_NEAR_A_QUOTE;
-            } else {
-                after.arrange(plan);
-                reason = reasonInLayout(moved);
+                return OUTSIDE;
             }
-            moved.placed = false;
-            return reason;
+            if (isTooNearToAnother(moved)) {
+                return TOO_NEAR_A_QUOTE;
+            }
+            after.arrange(plan);
+            return reasonInLayout(moved);
         }
 
         private boolean isTooNearToAnother(Quote moved) {
@@ -970,7 +967,7 @@ public final class QuoteGrid {
             if (after.isMoreOverset(before)) {
                 return MORE_OVERSET;
             }
-            if (!after.flows[moved.article].hasLineOn(moved.page)) {
+            if (moved.article >= plan.articleCount || !after.flows[moved.article].hasLineOn(moved.page)) {
                 return NO_LINE_ON_PAGE;
             }
             if (isBadlyDistant(moved)) {
@@ -1005,11 +1002,8 @@ public final class QuoteGrid {
         }
 
         private int unrestAt(int firstModule) {
-            Quote moved = plan.quotes[quote];
-            moved.moveTo(firstModule);
-            int unrest = plan.unrest();
-            moved.placed = false;
-            return unrest;
+            plan.quotes[quote].moveTo(firstModule);
+            return plan.unrest();
         }
 
         int greatestLength(Content content, int article) {

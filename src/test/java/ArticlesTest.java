@@ -136,9 +136,16 @@ public final class ArticlesTest {
         Check.due("also where nothing changes", grid.article(1, 1), 1);
         grid.undo();
         Check.due("undo brings the length back", grid.article(1, 1), 20);
+        QuoteGrid descending = Check.read("a0 10:7,1;");
+        Check.due("a length that the first sentence forbids", descending.setArticle(0, 1, 7), Check.INVALID);
+        Check.due("a length that it allows", descending.setArticle(0, 1, 8), 10);
+        descending.removeArticle(0);
+        descending.addArticle(0, 10);
+        Check.due("sentences that are gone forbid nothing", descending.setArticle(0, 1, 1), 10);
         refusesSetting(2, 0, 5);
         refusesSetting(-1, 0, 5);
         refusesSetting(0, 2, 5);
+        refusesSetting(1, 2, 5);
         refusesSetting(0, -1, 5);
         refusesSetting(0, 0, -1);
         refusesSetting(0, 0, 360);

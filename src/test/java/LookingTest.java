@@ -31,6 +31,13 @@ public final class LookingTest {
         for (int what = 0; what < counts.length; what++) {
             Check.due("count(" + what + ")", grid.count(what), counts[what]);
         }
+        grid.undo();
+        Check.due("count(7) of another layout", grid.count(7), 2);
+        Check.due("count(8) with the first module", Check.read("a0 7;").count(8), 7);
+        Check.due("count(8) with the last module", Check.read("a355 7;").count(8), 5);
+        QuoteGrid fewer = Check.read("a0 7;a350 20;");
+        fewer.removeArticle(1);
+        Check.due("count(6) without the last article", fewer.count(6), 0);
         for (int what : new int[] {-1, 13, Integer.MIN_VALUE, Integer.MAX_VALUE}) {
             Check.refuses("count(" + what + ")", LookingTest::jumping, g -> g.count(what), Check.INVALID);
         }

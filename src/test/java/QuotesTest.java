@@ -70,6 +70,15 @@ public final class QuotesTest {
         Check.due("removeQuote is an action", grid.count(11), 5);
         grid.undo();
         Check.due("undo brings it back to its place", grid.module(64), 22);
+        grid.removeQuote(1);
+        grid.setArticle(0, 0, 240);
+        Check.due("no trouble is left of it", grid.troubled(), 1);
+        grid.undo();
+        Check.due("no hindrance", grid.refusal(0, 0, 3, 4), 0);
+        Check.due("no unrest", grid.count(9), 1);
+        Check.due("a quote in its stead", grid.addQuote(0, 1, 3, 2), 1);
+        Check.due("is not placed", grid.quote(1, 4), Check.NONE);
+        Check.due("its modules stay free", grid.module(64), 0);
         for (int quote : new int[] {-1, 3, 8, Integer.MIN_VALUE, Integer.MAX_VALUE}) {
             Check.refuses("removeQuote(" + quote + ")", QuotesTest::placedOnFreePage,
                     g -> g.removeQuote(quote), Check.INVALID);
@@ -198,6 +207,12 @@ public final class QuotesTest {
         Check.due("setRule is an action", grid.count(11), 5);
         grid.undo();
         Check.due("undo brings the gap back", grid.count(5), 1);
+        QuoteGrid fresh = new QuoteGrid();
+        Check.due("a least distance above 10", fresh.setRule(0, 11), Check.INVALID);
+        fresh.setRule(1, 5);
+        Check.due("a least distance above the greatest one", fresh.setRule(0, 6), Check.INVALID);
+        Check.due("a least distance that is the greatest one", fresh.setRule(0, 5), 3);
+        Check.due("a greatest distance below the least one", fresh.setRule(1, 4), Check.INVALID);
         refusesRule(-1, 5);
         refusesRule(3, 5);
         refusesRule(0, -1);

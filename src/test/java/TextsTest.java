@@ -84,6 +84,8 @@ public final class TextsTest {
 
     private static void promise17WrongSigns() {
         Check.due("b", Check.loading("b"), -1000);
+        Check.due("sign 1", Check.loading("\u0001"), -1000);
+        Check.due("sign 255", Check.loading("a0 9\u00ff"), -1004);
         Check.due("A", Check.loading("A0 9;"), -1000);
         Check.due(";", Check.loading(";"), -1000);
         Check.due("spaces, then ;", Check.loading("  ;"), -1002);
