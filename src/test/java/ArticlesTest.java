@@ -1,36 +1,12 @@
-/** Promises 1 to 5: a new object, articles and sentences. */
+/** Promises 2 to 5: articles and sentences; promise 1 is all edge, and stands in ArticleEdges. */
 public final class ArticlesTest {
     public static void main(String[] args) {
-        promise1NewObject();
         promise2AddArticle();
         promise3RemoveArticle();
         promise4SetArticle();
         promise4SetArticleKeepsPlacedQuotes();
         promise5AddSentence();
         Check.end();
-    }
-
-    private static void promise1NewObject() {
-        QuoteGrid grid = new QuoteGrid();
-        int[] counts = {0, 0, 0, 3, 12, 2, 0, 0, 0, 0, 0, 0, 0};
-        for (int what = 0; what < counts.length; what++) {
-            Check.due("new: count(" + what + ")", grid.count(what), counts[what]);
-        }
-        for (int module = 0; module < 360; module++) {
-            Check.due("new: module(" + module + ")", grid.module(module), 0);
-        }
-        for (int page = 0; page < 3; page++) {
-            for (int what = 0; what <= 2; what++) {
-                Check.due("new: page(" + page + ", " + what + ")", grid.page(page, what), 0);
-            }
-        }
-        Check.due("new: troubled()", grid.troubled(), 0);
-        Check.due("new: undo()", grid.undo(), Check.ILLEGAL);
-        Check.due("new: restore(0)", grid.restore(0), Check.ILLEGAL);
-        Check.due("new: clearText()", grid.clearText(), 0);
-        Check.due("new: article(0, 0)", grid.article(0, 0), Check.INVALID);
-        Check.due("new: quote(0, 0)", grid.quote(0, 0), Check.INVALID);
-        Check.due("another new object is empty too", new QuoteGrid().count(0), 0);
     }
 
     private static void promise2AddArticle() {

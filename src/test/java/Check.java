@@ -1,6 +1,5 @@
-import java.util.ArrayList;
-import java.util.List;
 import java.util.function.Consumer;
+import java.util.function.Supplier;
 import java.util.function.ToIntFunction;
 
 /** What the tests share: comparing answers, building objects, and telling that nothing changed. */
@@ -13,67 +12,99 @@ final class Check {
 
     private static int asked = 0;
     private static int wrong = 0;
+    private static String subject = "";
 
     private Check() {
     }
 
+    /** A call that is asked with one number. */
+    interface Asking {
+        int ask(QuoteGrid grid, int value);
+    }
+
+    /** How many answers have been compared. */
+    static int asked() {
+        return asked;
+    }
+
+    /** Names what the next checks are about. */
+    static void subject(String words) {
+        subject = words;
+    }
+
     static void due(String call, int got, int want) {
+        holds(call + " answered " + got + ", due is " + want, got == want);
+    }
+
+    static void holds(String complaint, boolean right) {
         asked++;
-        if (got != want) {
+        if (!right) {
             wrong++;
-            System.out.println(call + " answered " + got + ", due is " + want);
+            System.out.println(subject.isEmpty() ? complaint : subject + ": " + complaint);
         }
     }
 
     /** Checks that a call answers an error code and leaves the object as one that it was not called on. */
     static void refuses(String call, Consumer<QuoteGrid> setup, ToIntFunction<QuoteGrid> asking, int want) {
-        QuoteGrid touched = new QuoteGrid();
-        QuoteGrid untouched = new QuoteGrid();
-        setup.accept(touched);
-        setup.accept(untouched);
-        due(call, asking.applyAsInt(touched), want);
-        asked++;
-        if (!looks(touched).equals(looks(untouched))) {
-            wrong++;
-            System.out.println(call + " changed something");
+        due(call, asking.applyAsInt(made(setup)), want);
+        Supplier<QuoteGrid> untouched = () -> made(setup);
+        Supplier<QuoteGrid> touched = () -> {
+            QuoteGrid grid = made(setup);
+            asking.applyAsInt(grid);
+            return grid;
+        };
+        holds(call + " changed something", Look.everything(touched).equals(Look.everything(untouched)));
+    }
+
+    /**
+     * Checks that a call records one state, and that undo() restores all but the text: on objects
+     * with a short history; the setup may have made at most four states.
+     */
+    static void isAction(String call, Consumer<QuoteGrid> setup, ToIntFunction<QuoteGrid> asking) {
+        int before = made(setup).count(11);
+        QuoteGrid acted = made(setup);
+        int answer = asking.applyAsInt(acted);
+        holds(call + " answered " + answer + " and did not succeed", answer >= 0);
+        due("the states behind " + call, acted.count(11), before + 1);
+        Supplier<QuoteGrid> untouched = () -> made(setup);
+        Supplier<QuoteGrid> undone = () -> {
+            QuoteGrid grid = made(setup);
+            asking.applyAsInt(grid);
+            grid.undo();
+            return grid;
+        };
+        due("the states behind " + call + " and undo()", undone.get().count(11), before);
+        holds("undo() behind " + call + " does not restore the state",
+                Look.everythingOfAState(undone).equals(Look.everythingOfAState(untouched)));
+    }
+
+    /**
+     * Checks both ends of the range of one argument: the least and the greatest value are taken and
+     * answered as told; the ones beside them and far ones, also such that come into the range when
+     * high bits are lost, are refused as out of range.
+     */
+    static void edges(String call, Consumer<QuoteGrid> setup, Asking asking,
+            int least, int wantLeast, int greatest, int wantGreatest) {
+        due(call + " with " + least, asking.ask(made(setup), least), wantLeast);
+        due(call + " with " + greatest, asking.ask(made(setup), greatest), wantGreatest);
+        refusesBeside(call, setup, asking, least, greatest);
+    }
+
+    /** The refused half of edges(), which serves also where the range is empty (greatest is least - 1). */
+    static void refusesBeside(String call, Consumer<QuoteGrid> setup, Asking asking, int least, int greatest) {
+        int[] beside = {least - 1, greatest + 1, least + 256, least - 256, least + 65536, greatest - 65536,
+            Integer.MIN_VALUE, Integer.MIN_VALUE + least, Integer.MAX_VALUE, Integer.MAX_VALUE - 1};
+        for (int value : beside) {
+            if (value < least || value > greatest) {
+                refuses(call + " with " + value, setup, grid -> asking.ask(grid, value), INVALID);
+            }
         }
     }
 
-    /** All that can be seen, then the counts while the history is undone. */
-    private static List<Integer> looks(QuoteGrid grid) {
-        List<Integer> seen = new ArrayList<>();
-        lookAtCounts(grid, seen);
-        for (int article = 0; article < grid.count(0); article++) {
-            for (int what = 0; what <= 6; what++) {
-                seen.add(grid.article(article, what));
-            }
-            for (int sentence = 0; sentence < grid.article(article, 2); sentence++) {
-                seen.add(grid.sentence(article, sentence, 0));
-                seen.add(grid.sentence(article, sentence, 1));
-            }
-        }
-        for (int quote = 0; quote < grid.count(1); quote++) {
-            for (int what = 0; what <= 7; what++) {
-                seen.add(grid.quote(quote, what));
-            }
-        }
-        for (int page = 0; page < 3; page++) {
-            for (int what = 0; what <= 2; what++) {
-                seen.add(grid.page(page, what));
-            }
-        }
-        for (int i = 0; i < 6; i++) {
-            seen.add(grid.undo());
-            lookAtCounts(grid, seen);
-        }
-        seen.add(grid.load());
-        return seen;
-    }
-
-    private static void lookAtCounts(QuoteGrid grid, List<Integer> seen) {
-        for (int what = 0; what <= 12; what++) {
-            seen.add(grid.count(what));
-        }
+    static QuoteGrid made(Consumer<QuoteGrid> setup) {
+        QuoteGrid grid = new QuoteGrid();
+        setup.accept(grid);
+        return grid;
     }
 
     static void type(QuoteGrid grid, String text) {
@@ -82,23 +113,23 @@ final class Check {
         }
     }
 
-    /** An object that has read this text, and no other call is on its history. */
-    static QuoteGrid read(String text) {
-        QuoteGrid grid = new QuoteGrid();
+    /** Lets an object read this text, which must have no error. */
+    static void load(QuoteGrid grid, String text) {
         type(grid, text);
         int items = grid.load();
         if (items < 0) {
-            wrong++;
-            System.out.println("the text " + text + " was not read: " + items);
+            holds("the text " + text + " was not read: " + items, false);
         }
-        return grid;
+    }
+
+    /** An object that has read this text, and no other call is on its history. */
+    static QuoteGrid read(String text) {
+        return made(grid -> load(grid, text));
     }
 
     /** What load() answers to this text on a new object. */
     static int loading(String text) {
-        QuoteGrid grid = new QuoteGrid();
-        type(grid, text);
-        return grid.load();
+        return made(grid -> type(grid, text)).load();
     }
 
     static void end() {
